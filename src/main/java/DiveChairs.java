@@ -10,6 +10,7 @@ public final class DiveChairs {
     private static final int CHAIR_SETS = 128;
     private static final int DIVES = 40;
     private static final int PARTS = 6;
+    private static final int MACHINE_PARTS = 7;
     private static final int FLAW_SETS = 64;
     private static final int SPLASHES = 10;
     private static final int LEAST_HARD = 10;
@@ -606,14 +607,13 @@ public final class DiveChairs {
             return leansOwn || leansSwapped ? leaning : 0;
         }
 
-        /** Takes what each kind needs; all but the end is not held to the bounds of marks. */
-        int markFor(int fair, int plain, int diverLand, int drawn) {
+        /** What comes in is not held to the bounds of marks yet: leans work on what is below 0 too. */
+        int markFor(int fair, int diverLand, int drawn) {
             switch (kind) {
                 case STEADY: return held(fair - (fair & 1));
                 case OWN:
                 case SWAPPING: return held(fair + leanTo(diverLand));
                 case DRAWN: return held(fair + drawn);
-                case MACHINE: return held(plain);
                 default: return held(fair);
             }
         }
@@ -760,7 +760,10 @@ public final class DiveChairs {
         }
     }
 
-    /** What is off, what is dropped, and the sum that counts: numbers as they are, signs and fields below 0, those on which a sign works ahead of it. */
+    /**
+     * What is off, what is dropped, and the sum that counts. In the code of the sum numbers stand as they are
+     * and letters and signs below 0, each sign behind the two things on which it works: so it is read once only.
+     */
     private static final class Rule {
         final int[] off = new int[PARTS];
         int dropHighest = 1;
@@ -1234,10 +1237,10 @@ public final class DiveChairs {
         }
 
         private int markOf(Judge judge, int number, Dive dive, int chair) {
-            int fair = BEST_MARK - rule.offFor(dive.flaws & partsSeen(chair, dive.splash));
-            int plain = BEST_MARK - rule.offFor(dive.flaws & 7);
+            int parts = judge.kind == MACHINE ? MACHINE_PARTS : partsSeen(chair, dive.splash);
+            int fair = BEST_MARK - rule.offFor(dive.flaws & parts);
             int drawn = judge.kind == DRAWN ? drawnBy(number, dive) : 0;
-            return judge.markFor(fair, plain, landOf(dive), drawn);
+            return judge.markFor(fair, landOf(dive), drawn);
         }
 
         private int drawnBy(int number, Dive dive) {

@@ -13,6 +13,7 @@ public final class LeansTest {
         seeing();
         worldsByChance();
         worldsOfMarks();
+        worldsOfNames();
         Check.finish();
     }
 
@@ -97,7 +98,25 @@ public final class LeansTest {
         Check.is("a sum of 0 is no lean", 0, x.pairs());
         Check.is("told anew", 3, Scene.tell(x, 1, 4, 5, 5));
         Check.is("nor is one below", 0, x.pairs());
+        lateJudges();
         oneLand();
+    }
+
+    private static void lateJudges() {
+        DiveChairs x = new DiveChairs();
+        x.diver(4, 0);
+        x.diver(5, 0);
+        for (int judge = 0; judge < 12; judge++) {
+            x.judge(0, judge == 11 ? 400 : judge == 10 ? 500 : 0);
+        }
+        x.chair(2, 0, 11);
+        x.chair(3, 0, 10);
+        dive(x, 2, 1, 20, 5, 5);
+        dive(x, 3, 0, 20, 5, 5);
+        Check.is("the last two of twelve", 1, x.pairs());
+        Check.is("asked again", 1, x.pairs());
+        Check.is("told anew", 3, Scene.tell(x, 0, 5, 5, 5));
+        Check.is("leans no more", 0, x.pairs());
     }
 
     private static void oneLand() {
@@ -235,6 +254,16 @@ public final class LeansTest {
         Check.is("first above", -1000000001, x.creep(41, 0));
         Check.is("second below", -1000000001, x.creep(0, -1));
         Check.is("second above", -1000000001, x.creep(0, 41));
+        dive(x, 2, 1, 0, 1);
+        dive(x, 3, 1, 1, 0);
+        x.chair(2, 0, 2);
+        x.chair(3, 1, 2);
+        x.year(2, 20);
+        x.year(3, 21);
+        Check.is("told", 2, Scene.tell(x, 5, 0, 1));
+        Check.is("told", 2, Scene.tell(x, 6, 20, 3));
+        Check.is("marks of 0 are marks", 300, x.creep(20, 21));
+        Check.is("marks of 0 are marks", -300, x.creep(21, 20));
         x.year(1, 40);
         Check.is("no more", -1000000004, x.creep(0, 3));
         Check.is("years as they are now", -16, x.creep(0, 40));
@@ -293,8 +322,10 @@ public final class LeansTest {
         seeingIs(x, 3, 0, 6, 7);
         seeingIs(x, 6, 0, 6, 63);
         seeingIs(x, 7, 9, 5, 127);
-        Check.is("n below", -1, x.seeing(-1, 0, 0));
-        Check.is("n above", -1, x.seeing(8, 0, 0));
+        for (int what = 0; what < 2; what++) {
+            Check.is("n below", -1, x.seeing(-1, 0, what));
+            Check.is("n above", -1, x.seeing(8, 0, what));
+        }
         Check.is("splash below", -1, x.seeing(1, -1, 0));
         Check.is("splash above", -1, x.seeing(1, 10, 0));
         Check.is("what below", -1, x.seeing(1, 0, -1));
@@ -348,6 +379,34 @@ public final class LeansTest {
         Check.is("hall above", -1, x.worlds(6, 1, 1));
         Check.is("n below", -1, x.worlds(0, 0, 1));
         Check.is("n above", -1, x.worlds(0, 31, 1));
+    }
+
+    /** A drawn judge adds 4 for the name of diver 1, and 1 behind a dive worth 15 or more. */
+    private static void worldsOfNames() {
+        DiveChairs x = new DiveChairs();
+        x.diver(0, 0);
+        x.diver(0, 8);
+        x.judge(4, 0);
+        x.chair(0, 2, 0);
+        Check.is("rule", 2, Scene.rule(x, "d0 0;fs;"));
+        x.dive(0, 0, 0, 1000);
+        x.dive(0, 1, 0, 1090);
+        long z = 4711;
+        int right = 0;
+        for (int world = 0; world < 30; world++) {
+            long first = next(z);
+            z = next(first);
+            int own = 20 - 2 * Long.bitCount((first & 0x7fffffffL) / 65536 % 64 & 45);
+            int other = 20 - 2 * Long.bitCount((z & 0x7fffffffL) / 65536 % 64 & 13) + 4;
+            if (worthOf(first) >= 15) {
+                other++;
+            }
+            int ahead = worthOf(first) - worthOf(z);
+            if (Math.min(20, other) > own ? ahead <= 0 : ahead >= 0) {
+                right++;
+            }
+        }
+        Check.is("by the drawn judge", right, x.worlds(0, 30, 4711));
     }
 
     /** A machine that sees but parts 0 to 2 judges; chairs without judges leave no marks of before. */

@@ -93,6 +93,9 @@ public final class MarksTest {
         x.dive(0, 1, 63, 1000);
         Check.is("the one right ahead", 18, x.would(4, 1));
         Check.is("held at 20", 20, x.would(3, 1));
+        x.chair(1, 1, 0);
+        x.dive(1, 1, 63, 1000);
+        Check.is("the very first dive is ahead", 18, x.would(5, 1));
     }
 
     private static void wouldMiddling() {
@@ -117,6 +120,10 @@ public final class MarksTest {
         x.chair(4, 0, 0);
         x.chair(4, 1, 2);
         Check.is("chairs of other halls do not matter", 4, x.would(0, 0));
+        x.dive(5, 0, 63, 1000);
+        x.chair(5, 0, 3);
+        x.chair(5, 4, 0);
+        Check.is("chair 0 is one of the others", 13, x.would(1, 4));
     }
 
     private static void markAll() {
@@ -222,6 +229,15 @@ public final class MarksTest {
         Check.is("with a fault nothing holds", 0, x.count(6));
         Check.is("wrong at the end", -2010, Scene.rule(x, "o0 7;d1 1;d4 1;"));
         Check.is("then nothing holds either", 3, x.count(12));
+        Check.is("another one", 1, Scene.rule(x, "o1 4;"));
+        Check.is("what was spoilt does not come back", 0, x.count(6));
+        Check.is("nor what was wrong", 3, x.count(12));
+        x.image();
+        Check.is("changed", 1, Scene.rule(x, "o2 9;"));
+        x.restore();
+        Check.is("and one more", 1, Scene.rule(x, "o3 6;"));
+        Check.is("what was restored stays", 2, x.count(8));
+        Check.is("what was told holds", 6, x.count(9));
     }
 
     private static void fault(String text, int due) {
@@ -282,6 +298,12 @@ public final class MarksTest {
         fault("O1 1;", -1000);
         fault("fs;\u00ff", -1003);
         fault("fs*h/10+(n-m)*[a,{z,p}];", 1);
+        fault("f" + "s+".repeat(59) + "s", -1120);
+        fault("f" + "s+".repeat(59) + "1", -1120);
+        fault("fs" + "+s".repeat(58) + "+", -1119);
+        fault("f10" + "+s".repeat(58) + "+", -1120);
+        fault("f" + "s*".repeat(58) + "s;", 1);
+        fault("f1" + "+h".repeat(58) + "0;", -1118);
     }
 
     private static void wrongNumbers() {
@@ -327,6 +349,19 @@ public final class MarksTest {
         Check.is("as many as are dropped", 0, x.counts(0));
         Check.is("told", 3, Scene.tell(x, 0, 9, 9, -128, 9));
         Check.is("alike ones are dropped but once each", 11, x.counts(0));
+        Check.is("told", 3, Scene.tell(x, 0, 11, 2, 5));
+        Check.is("rule", 1, Scene.rule(x, "d0 0;"));
+        Check.is("told", 1, Scene.tell(x, 0, 11));
+        Check.is("z of one", 11, worth(x, "z"));
+        Check.is("a of one", 11, worth(x, "a"));
+        Check.is("m of one", 11, worth(x, "m"));
+        Check.is("rule", 1, Scene.rule(x, "d1 1;"));
+        Check.is("told", 3, Scene.tell(x, 0, 11, 2, 5));
+        Check.is("z of three", 2, worth(x, "z"));
+        Check.is("a of three", 11, worth(x, "a"));
+        Check.is("m of three", 5, worth(x, "m"));
+        Check.is("s of three", 5, worth(x, "s"));
+        Check.is("as at first", 6, worth(x, "s*h/10"));
         Check.is("told", 6, Scene.tell(x, 0, 11, 2, -128, 19, 5, 2, 16));
         Check.is("s * h / 10", 44, x.counts(0));
         Check.is("s", 34, worth(x, "s"));

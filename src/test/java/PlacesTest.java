@@ -114,6 +114,14 @@ public final class PlacesTest {
         Check.is("none", 0, x.wonIf(1, 1, 0));
         Check.is("a highest", 1, x.wonIf(1, 1, 10));
         Check.is("a lowest", 0, x.wonIf(1, 1, 1));
+        dive(x, 2, 0, 10, 10, 10);
+        dive(x, 2, 1, 0, 14, 15);
+        Check.is("as it is there", 0, x.wonIf(2, 1, 0));
+        Check.is("a lowest there", 1, x.wonIf(2, 1, 1));
+        Check.is("one of each", 1, x.wonIf(2, 1, 11));
+        Check.is("as many as there are, two highest", 0, x.wonIf(2, 1, 21));
+        Check.is("as many as there are, two lowest", 0, x.wonIf(2, 1, 12));
+        Check.is("two highest there", 0, x.wonIf(2, 1, 20));
         Check.is("two highest", 1, x.wonIf(1, 1, 20));
         Check.is("too many for all", 0, x.wonIf(1, 1, 33));
         Check.is("only in mind", 0, x.won(1));
@@ -121,6 +129,11 @@ public final class PlacesTest {
         Check.is("rule", 1, Scene.rule(x, "d1 0;"));
         Check.is("dropped anew", 1, x.won(1));
         Check.is("instead, not more", 0, x.wonIf(1, 1, 0));
+        Check.is("rule", 1, Scene.rule(x, "fp*h;"));
+        x.diver(0, 0);
+        Scene.tell(x, x.dive(4, 0, 0, 3010), 1);
+        Scene.tell(x, x.dive(4, 3, 0, 1040), 1);
+        Check.is("splash and hard are as they are", 3, x.wonIf(4, 1, 0));
     }
 
     private static void wonWithoutLeans() {

@@ -52,6 +52,9 @@ public final class ShelvesTest {
         Check.is("has no place", -13, x.put(1, 0, 0));
         Check.is("anew", 0, x.row(0, 2, 120));
         Check.is("with zeros", 0, x.element(0, 119));
+        x.put(0, 0, 9);
+        x.row(0, 2, 1);
+        Check.is("from the first on", 0, x.element(0, 0));
         x.keep(2, 1, 0);
         Check.is("refused", -14, x.row(2, 0, -5));
         Check.is("judge stays", 10, x.weight(2));
@@ -156,6 +159,9 @@ public final class ShelvesTest {
         Check.is("nothing ahead of a judge", -11, x.copy(3, 0, 2, 0, 1));
         Check.is("from a judge", -12, x.copy(3, 0, 0, 0, 1));
         Check.is("to a judge", -12, x.copy(0, 0, 3, 0, 1));
+        x.row(5, 0, 2);
+        Check.is("a judge is no row of any sort", -12, x.copy(3, 0, 5, 0, 0));
+        Check.is("nor a place for one", -12, x.copy(5, 0, 3, 0, 0));
         Check.is("of unlike sorts", -12, x.copy(0, 0, 4, 0, 1));
         Check.is("sorts ahead of places", -12, x.copy(0, -1, 4, 0, 99));
         Check.is("many below 0", -13, x.copy(0, 0, 1, 0, -1));
