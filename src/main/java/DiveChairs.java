@@ -812,7 +812,7 @@ public final class DiveChairs {
             return sum;
         }
 
-        int worthFor(Panel panel, Dive dive) {
+        int countFor(Panel panel, Dive dive) {
             if (panel.size < dropHighest + dropLowest + 1) {
                 return 0;
             }
@@ -1205,7 +1205,7 @@ public final class DiveChairs {
 
         int countOf(Dive dive) {
             panel.gather(dive);
-            return rule.worthFor(panel, dive);
+            return rule.countFor(panel, dive);
         }
 
         int wouldMark(int number, int chair) {
@@ -1440,14 +1440,14 @@ public final class DiveChairs {
     }
 
     private static final class OrderDealing extends Dealing {
-        private final int[] worths = new int[DIVES];
+        private final int[] counted = new int[DIVES];
 
         void takeFrom(State state, int hall) {
             size = 0;
             for (int number = 0; number < state.dives; number++) {
                 Dive dive = state.diveAt(number);
                 if (dive != null && dive.hall == hall && within(size, DIVES)) {
-                    worths[size] = state.countOf(dive);
+                    counted[size] = state.countOf(dive);
                     size++;
                 }
             }
@@ -1457,8 +1457,8 @@ public final class DiveChairs {
             if (!within(thing, DIVES) || !within(laterThing, DIVES)) {
                 return 0;
             }
-            int first = worths[thing];
-            int second = worths[laterThing];
+            int first = counted[thing];
+            int second = counted[laterThing];
             return second > first ? 1 : second < first ? -1 : 0;
         }
     }
