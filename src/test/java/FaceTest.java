@@ -32,9 +32,16 @@ public final class FaceTest {
         "catch (RuntimeException", "catch (Exception", "catch (Error", "catch (IndexOutOfBounds", "catch (Arithmetic"
     };
 
+    private static final String[] HEADS = {
+        "divers, judges, halls, dives", "diver", "marks, rules", "would", "places", "total", "leans", "lean",
+        "the image, what is told", "image", "shelves", "keep"
+    };
+
     public static void main(String[] args) throws IOException {
         face();
-        source(Files.readAllLines(Path.of("src/main/java/DiveChairs.java")));
+        List<String> lines = Files.readAllLines(Path.of("src/main/java/DiveChairs.java"));
+        source(lines);
+        order(lines);
         Check.finish();
     }
 
@@ -88,6 +95,32 @@ public final class FaceTest {
             boolean hidden = Modifier.isPrivate(method.getModifiers());
             Check.holds("not named as a public one: " + method, !hidden || !names.contains(method.getName()));
         }
+    }
+
+    /** The calls stand in the order of the document, with what the interface says ahead of some of them. */
+    private static void order(List<String> lines) {
+        List<String> due = new ArrayList<>();
+        int head = 0;
+        for (String call : FACE) {
+            String name = call.substring(call.indexOf(' ') + 1, call.indexOf('('));
+            if (head < HEADS.length && name.equals(HEADS[head + 1])) {
+                due.add("---- " + HEADS[head]);
+                head += 2;
+            }
+            due.add(name);
+        }
+        List<String> found = new ArrayList<>();
+        for (String line : lines) {
+            if (line.equals("    // ---- behind the face")) {
+                break;
+            }
+            if (line.startsWith("    // ---- ")) {
+                found.add(line.substring(7));
+            } else if (line.matches(" {4}public (int|long) .*")) {
+                found.add(line.substring(line.indexOf(' ', 11) + 1, line.indexOf('(')));
+            }
+        }
+        Check.holds("order of the calls " + found, found.equals(due));
     }
 
     private static void source(List<String> lines) {
