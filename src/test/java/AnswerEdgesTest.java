@@ -14,6 +14,8 @@ public final class AnswerEdgesTest {
         lastOnesInMind();
         movedByTwentyAndZero();
         movedByEachSet();
+        movedDownByAll();
+        movedAmongEight();
         leansOfNoneAndOne();
         pairsAboveZero();
         pairsAddUp();
@@ -280,6 +282,36 @@ public final class AnswerEdgesTest {
         Check.is("alone, the least set of three", 7, x.moved(2, 0, 3, 1));
         Check.is("alone, the least set of two", 3, x.moved(2, 0, 2, 1));
         Check.is("alone, the least set of one", 1, x.moved(2, 0, 1, 1));
+    }
+
+    /** There are seven chairs and no more, and just so many move it: not fewer, where all of them do harm. */
+    private static void movedDownByAll() {
+        DiveChairs x = sums();
+        dive(x, 0, 0, 10, 10, 10, 10, 10, 10, 10);
+        dive(x, 0, 1, 10, 10, 10, 10, 10, 10, 10);
+        rule(x, "f140-s;");
+        Check.is("alike before", 1, x.place(0, 0));
+        for (int n = 1; n <= 3; n++) {
+            Check.is("behind by each " + n, 2, x.moved(0, 0, n, 0));
+            Check.is("the least set of " + n, (1 << n) - 1, x.moved(0, 0, n, 1));
+        }
+    }
+
+    /** Places go as far as 8, and so does the least of them. */
+    private static void movedAmongEight() {
+        DiveChairs x = new DiveChairs();
+        for (int diver = 0; diver < 8; diver++) {
+            x.diver(0, 0);
+        }
+        rule(x, "d0 0;fs;");
+        x.dive(4, 0, 0, 1000);
+        for (int diver = 1; diver < 8; diver++) {
+            dive(x, 4, diver, -128, 20, 20, 20, 20);
+            Check.is("behind " + diver + ", whatever one chair does", diver + 1, x.moved(4, 0, 1, 0));
+            Check.is("by the least", 1, x.moved(4, 0, 1, 1));
+            Check.is("whatever three chairs do", diver + 1, x.moved(4, 0, 3, 0));
+            Check.is("by the least three", 7, x.moved(4, 0, 3, 1));
+        }
     }
 
     private static int[] movedMarks(int[] marks, int set, int mark) {

@@ -12,6 +12,7 @@ public final class EdgesTest {
         heldAtTheEnd();
         leansWouldMark();
         drawn();
+        drawnInEachHall();
         middling();
         machine();
         weights();
@@ -284,6 +285,21 @@ public final class EdgesTest {
     }
 
     /** "the half of NAME (cut), and 1 more if the DIVE ahead in its HALL (if any) has a WORTH of 15 or more". */
+    /** Neither a hall's number nor a dive's has to do with how known the only diver is. */
+    private static void drawnInEachHall() {
+        DiveChairs x = new DiveChairs();
+        x.diver(0, 9);
+        x.judge(4, 0);
+        rule(x, 1, "o0 20;");
+        for (int hall = 0; hall < 6; hall++) {
+            Check.is("nobody was there", -4, x.chair(hall, 1, 0));
+            Check.is("dive", 2 * hall, x.dive(hall, 0, 1, 1000));
+            Check.is("dive behind", 2 * hall + 1, x.dive(hall, 0, 1, 1000));
+            Check.is("first in hall " + hall, 4, x.would(2 * hall, 1));
+            Check.is("worth 0 ahead in hall " + hall, 4, x.would(2 * hall + 1, 1));
+        }
+    }
+
     private static void drawn() {
         for (int name = 0; name < 10; name++) {
             DiveChairs x = new DiveChairs();

@@ -2,6 +2,7 @@
 public final class ShelvesTest {
     public static void main(String[] args) {
         keep();
+        nothingBehindARow();
         row();
         put();
         element();
@@ -32,6 +33,31 @@ public final class ShelvesTest {
         Check.is("no row now", -12, x.put(7, 0, 0));
         Check.is("nothing", 0, x.keep(7, 0, 0));
         Check.is("nothing now", -11, x.put(7, 0, 0));
+    }
+
+    /** Of what a shelf held nothing is left, of whatever sort it was. */
+    private static void nothingBehindARow() {
+        DiveChairs x = new DiveChairs();
+        x.diver(0, 0);
+        x.judge(0, 0);
+        x.dive(0, 0, 0, 1000);
+        x.row(1, 0, 5);
+        for (int sort = 0; sort < 3; sort++) {
+            x.row(0, sort, 5);
+            x.keep(0, 0, 0);
+            Check.is("no rule held", -11, x.rule(0));
+            Check.is("no marks held", -11, x.marks(0, 0));
+            Check.is("nothing to put into", -11, x.put(0, 0, 0));
+            Check.is("nothing to copy", -11, x.copy(0, 0, 1, 0, 0));
+            Check.is("nothing to copy to", -11, x.copy(1, 0, 0, 0, 0));
+            Check.is("no weight", -11, x.weight(0));
+            Check.is("no failure", -11, x.toss(0));
+            x.keep(0, 1, 0);
+            Check.is("a judge is no rule", -12, x.rule(0));
+            Check.is("a judge is no marks", -12, x.marks(0, 0));
+            Check.is("a judge is no row", -12, x.copy(0, 0, 1, 0, 0));
+            Check.is("weight", 10, x.weight(0));
+        }
     }
 
     private static void row() {
